@@ -90,9 +90,10 @@ public final class ModelTest {
         }
     }
 
+    /** As many calls as an object is good for. */
     private void longRunOfCalls() {
         begin();
-        for (int call = 0; call < 500; call++) {
+        for (int call = 0; call < 512; call++) {
             if (pick(120) == 0) {
                 x.clear();
                 m.clear();

@@ -5,9 +5,13 @@ final class Nets {
     static final int NONE = -4;
     static final int TIRED = -5;
 
-    static final int[] OUT_OF_RANGE = {-1, -2, -3, Integer.MIN_VALUE, Integer.MIN_VALUE + 1, Integer.MAX_VALUE};
+    /** Out of every range: among them are some that become small when they are tripled, added to or negated. */
+    static final int[] OUT_OF_RANGE = {
+        -1, -2, -3, -4, -29, -30, -31, -33, -34, Integer.MIN_VALUE, Integer.MIN_VALUE + 1,
+        Integer.MIN_VALUE + 30, -1431655765, 1431655766, Integer.MAX_VALUE - 29, Integer.MAX_VALUE - 1,
+        Integer.MAX_VALUE, 4096, 65536, 65566, 1 << 30};
 
-    /** Takes exactly 120 steps; found by search, its count confirmed by NetModel in StepsTest. */
+    /** Takes exactly 120 steps; found by search, its count confirmed by NetModel in TermsRunTest. */
     static final int[] KINDS_120 = {0, 0, 1, 1, 0, 0, 1, 1, 0, 1};
     static final int[] WIRES_120 = {
         0, 16, 1, 24, 2, 32, 3, 6, 4, 25, 5, 31, 7, 11, 8, 26, 9, 23, 10, 20,
@@ -43,7 +47,7 @@ final class Nets {
         return of(kinds(0, 1), 0, 3, 1, 4, 2, 5);
     }
 
-    /** Asks all that can be asked without changing the net. */
+    /** Asks all that can be asked without changing the net, in 24 calls. */
     static String answers(CellNets x) {
         StringBuilder all = new StringBuilder();
         all.append(x.cells()).append(' ').append(x.facing()).append(' ').append(x.steps());
@@ -52,8 +56,36 @@ final class Nets {
             all.append(' ').append(x.left(kind));
         }
         for (int e = 0; e < 4; e++) {
-            all.append(' ').append(x.reach(e)).append(' ').append(x.walk(e, 0)).append(' ').append(x.walk(e, 1234));
+            all.append(' ').append(x.reach(e)).append(' ').append(x.walk(e, 0));
+            all.append(' ').append(x.walk(e, 1)).append(' ').append(x.walk(e, 1234));
         }
         return all.toString();
+    }
+
+    /**
+     * Every wire and every cell's kind, in at most 66 calls. Takes the wires away, as the kind of
+     * a cell shows only when an end is joined to it.
+     */
+    static String takenApart(CellNets x) {
+        StringBuilder all = new StringBuilder();
+        int cells = x.cells();
+        all.append(cells).append(" cells, wires");
+        for (int p = 0; p < 34; p++) {
+            all.append(' ').append(x.cut(p));
+        }
+        all.append(", kinds");
+        for (int c = 0; c < cells; c++) {
+            x.join(3 * c, 30);
+            all.append(' ').append(x.walk(0, 0) / 3);
+            x.cut(30);
+        }
+        return all.toString();
+    }
+
+    /** That x has the same cells and wires as the net given, and answers the same. Takes x apart. */
+    static void unchanged(String after, CellNets x, int[] kinds, int... ports) {
+        CellNets twin = of(kinds, ports);
+        Check.same("answers after " + after, answers(x), answers(twin));
+        Check.same("cells and wires after " + after, takenApart(x), takenApart(twin));
     }
 }

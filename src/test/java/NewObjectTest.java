@@ -13,22 +13,35 @@ public final class NewObjectTest {
             Check.due("walk(" + e + ", 0)", x.walk(e, 0), 9);
             Check.due("walk(" + e + ", 4095)", x.walk(e, 4095), 9);
             Check.due("reach(" + e + ")", x.reach(e), 0);
-            Check.due("cut(" + (30 + e) + ")", x.cut(30 + e), Nets.NONE);
-        }
-        for (int p = 0; p < 30; p++) {
-            Check.due("cut(" + p + ")", x.cut(p), Nets.BAD_ARG);
         }
     }
 
-    public static void main(String[] args) {
-        nothingThere(new CellNets());
+    private static void noPortsButTheEnds(CellNets x) {
+        for (int p = 0; p < 30; p++) {
+            Check.due("cut(" + p + ")", x.cut(p), Nets.BAD_ARG);
+            Check.due("join(" + p + ", 30)", x.join(p, 30), Nets.BAD_ARG);
+        }
+        for (int p = 30; p < 34; p++) {
+            Check.due("cut(" + p + ")", x.cut(p), Nets.NONE);
+        }
+    }
 
+    private static void apartFromOthers() {
         CellNets used = Nets.of(Nets.kinds(0, 1), 0, 3, 30, 31);
         CellNets other = new CellNets();
         nothingThere(other);
+        noPortsButTheEnds(other);
         Check.due("cell(2) of the new object", other.cell(2), 0);
-        Check.due("cells() of the used object", used.cells(), 2);
-        Check.due("left(2) of the used object", used.left(2), 0);
+        Check.due("join(0, 33) of the new object", other.join(0, 33), 0);
+        Nets.unchanged("calls on a second object", used, Nets.kinds(0, 1), 0, 3, 30, 31);
+    }
+
+    public static void main(String[] args) {
+        Check.sentence("No cell.");
+        nothingThere(new CellNets());
+        noPortsButTheEnds(new CellNets());
+        Check.sentence("A new object");
+        apartFromOthers();
         Check.end();
     }
 }

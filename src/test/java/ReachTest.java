@@ -7,16 +7,26 @@ public final class ReachTest {
         Check.due("reach(0) again", x.reach(0), due[0]);
     }
 
-    private static void refused(CellNets x) {
+    private static void wrongEnds(CellNets x) {
+        Check.due("reach(-1)", x.reach(-1), Nets.BAD_ARG);
+        for (int e = 4; e < 40; e++) {
+            Check.due("reach(" + e + ")", x.reach(e), Nets.BAD_ARG);
+        }
         for (int e : Nets.OUT_OF_RANGE) {
             Check.due("reach(" + e + ")", x.reach(e), Nets.BAD_ARG);
         }
-        Check.due("reach(4)", x.reach(4), Nets.BAD_ARG);
-        Check.due("reach(30)", x.reach(30), Nets.BAD_ARG);
+    }
+
+    private static void nothingToGetTo() {
+        reach(new CellNets(), 0, 0, 0, 0);
+        reach(Nets.of(Nets.kinds(0, 1, 2)), 0, 0, 0, 0);
+        reach(Nets.of(Nets.kinds(0), 30, 32, 33, 31), 0, 0, 0, 0);
+        // Cells that vanish are not left to be got to.
+        reach(Nets.of(Nets.kinds(0, 0), 0, 3, 1, 30, 2, 31, 4, 32, 5, 33), 0, 0, 0, 0);
+        reach(Nets.of(Nets.kinds(0, 0, 1), 0, 3, 1, 30, 6, 7), 0, 0, 0, 0);
     }
 
     private static void withoutSteps() {
-        reach(Nets.of(Nets.kinds(0, 1, 2)), 0, 0, 0, 0);
         reach(Nets.of(Nets.kinds(0, 1), 30, 33, 31, 0), 0, 1, 0, 0);
         reach(Nets.of(Nets.kinds(2), 0, 32), 0, 0, 1, 0);
         // From each port of a pair to the cells at its others, whichever they are.
@@ -34,7 +44,6 @@ public final class ReachTest {
     }
 
     private static void afterTheRun() {
-        reach(Nets.of(Nets.kinds(0, 0), 0, 3, 1, 30, 2, 31, 4, 32, 5, 33), 0, 0, 0, 0);
         reach(Nets.of(Nets.kinds(0, 0, 1), 0, 3, 1, 30, 4, 7), 1, 0, 0, 0);
         reach(Nets.of(Nets.kinds(2, 0), 0, 3, 4, 30, 5, 31), 1, 1, 0, 0);
         reach(Nets.of(Nets.kinds(0, 1), 0, 3, 1, 30), 4, 0, 0, 0);
@@ -43,14 +52,21 @@ public final class ReachTest {
     }
 
     public static void main(String[] args) {
-        reach(new CellNets(), 0, 0, 0, 0);
+        Check.sentence("How many cells left by the run can be got to from end e");
+        nothingToGetTo();
+        Check.sentence("over wires and through cells");
         withoutSteps();
         afterTheRun();
-        refused(new CellNets());
-        refused(Nets.endless());
+        Check.sentence("BAD_ARG if e is not 0 to 3");
+        wrongEnds(new CellNets());
+        wrongEnds(Nets.of(Nets.kinds(0), 0, 30));
+        Check.sentence("TIRED");
         int tired = Nets.TIRED;
         reach(Nets.endless(), tired, tired, tired, tired);
         reach(Nets.of(Nets.KINDS_121, Nets.WIRES_121), tired, tired, tired, tired);
+        Check.sentence("BAD_ARG if e is not 0 to 3, tested first");
+        wrongEnds(Nets.endless());
+        wrongEnds(Nets.of(Nets.KINDS_121, Nets.WIRES_121));
         Check.end();
     }
 }

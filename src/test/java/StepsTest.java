@@ -6,11 +6,11 @@ public final class StepsTest {
                 Check.due("steps() of " + a + " and " + b, Nets.of(Nets.kinds(a, b), 0, 3).steps(), 1);
             }
         }
-        Check.due("steps() of five", Nets.of(Nets.kinds(2, 2, 0, 0, 1, 1, 0, 1, 2, 1),
-            0, 3, 6, 9, 12, 15, 18, 21, 24, 27).steps(), 5);
     }
 
     private static void noStep() {
+        Check.due("steps() without cells", new CellNets().steps(), 0);
+        Check.due("steps() of ends", Nets.of(Nets.kinds(), 30, 31, 32, 33).steps(), 0);
         Check.due("steps() without wires", Nets.of(Nets.kinds(0, 1, 2)).steps(), 0);
         Check.due("steps() with an end", Nets.of(Nets.kinds(0, 2), 0, 30, 3, 33).steps(), 0);
         Check.due("steps() with sides", Nets.of(Nets.kinds(0, 1), 0, 4, 1, 3, 2, 5).steps(), 0);
@@ -29,12 +29,16 @@ public final class StepsTest {
             0, 15, 1, 3, 2, 6, 4, 9, 5, 12, 16, 18, 17, 21, 19, 24, 20, 27).steps(), 25);
     }
 
-    private static void tired() {
-        Check.due("the model's steps", NetModel.of(1000, Nets.KINDS_120, Nets.WIRES_120).steps(), 120);
+    private static void manyAndMost() {
+        // Ten cells face each other in five pairs, each of which takes its one step.
+        Check.due("steps() of five", Nets.of(Nets.kinds(2, 2, 0, 0, 1, 1, 0, 1, 2, 1),
+            0, 3, 6, 9, 12, 15, 18, 21, 24, 27).steps(), 5);
+        Check.due("steps() of 119", LongNets.of(0).steps(), 119);
         Check.due("steps() of 120", Nets.of(Nets.KINDS_120, Nets.WIRES_120).steps(), 120);
-        Check.due("the model's steps", NetModel.of(1000, Nets.KINDS_121, Nets.WIRES_121).steps(), 121);
-        Check.due("steps() of 121", Nets.of(Nets.KINDS_121, Nets.WIRES_121).steps(), Nets.TIRED);
+    }
 
+    private static void tired() {
+        Check.due("steps() of 121", Nets.of(Nets.KINDS_121, Nets.WIRES_121).steps(), Nets.TIRED);
         CellNets x = Nets.endless();
         Check.due("steps() without end", x.steps(), Nets.TIRED);
         Check.due("steps() again", x.steps(), Nets.TIRED);
@@ -47,9 +51,12 @@ public final class StepsTest {
     }
 
     public static void main(String[] args) {
-        oneStep();
+        Check.sentence("The number of steps of the run");
         noStep();
+        oneStep();
         stepsThatBringSteps();
+        manyAndMost();
+        Check.sentence("TIRED: The run would take more than 120 steps.");
         tired();
         Check.end();
     }
