@@ -101,6 +101,22 @@ public final class TermsRunTest {
             } else {
                 Check.due("steps()", LongNets.of(i).steps(), steps);
                 sixCallsNotTired(LongNets.of(i));
+                leftAsTheModelSays(LongNets.of(i), unbounded);
+            }
+        }
+    }
+
+    /** The answers that other tests expect of the long nets can't be worked out by hand. */
+    private static void leftAsTheModelSays(CellNets x, NetModel m) {
+        Check.due("loops()", x.loops(), m.loops());
+        Check.due("open()", x.open(), m.open());
+        for (int kind = 0; kind < 3; kind++) {
+            Check.due("left(" + kind + ")", x.left(kind), m.left(kind));
+        }
+        for (int e = 0; e < 4; e++) {
+            Check.due("reach(" + e + ")", x.reach(e), m.reach(e));
+            for (int turns = 0; turns < 4096; turns += 63) {
+                Check.due("walk(" + e + ", " + turns + ")", x.walk(e, turns), m.walk(e, turns));
             }
         }
     }
